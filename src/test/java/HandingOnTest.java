@@ -153,6 +153,8 @@ public final class HandingOnTest {
         Desk.due("three writes", desk.post.reply(550), 2);
         Desk.due("numbers", desk.numbers(), "2 3 4 5 6");
         Desk.due("state()", desk.post.state(), 2);
+        Desk.due("no sender, in a used place", desk.path(6, -1), "");
+        Desk.due("text, in a used place", desk.text(6), "\nReturned: r@h\n");
     }
 
     private static void breakdowns() {

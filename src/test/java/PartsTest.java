@@ -89,6 +89,9 @@ public final class PartsTest {
         plainWith("Content-Type:boundary=b multipart/x", tail);
         plainWith("Content-Type:text/plain", tail);
         plainWith("Content-Type:", tail);
+        plainWith("Xontent-Type:multipart/boundary=b", tail);
+        plainWith("Content-Type:Xultipart/boundary=b", tail);
+        plainWith("Content-Type:multipart/Xoundary=b", tail);
         plainWith("Content-Types:multipart/x;boundary=b", tail);
         plainWith("X-Content-Type:multipart/x;boundary=b", tail);
         plain("Content-Type:multipart/x;", " boundary=b", "", "--b", "--b--");
@@ -124,6 +127,8 @@ public final class PartsTest {
         told("0/1/0/9 1/0/3/5", OPEN + "b", "", "--b", "", "--bb", "--b-", "--b ", "-b", "--b--");
         told("0/1/0/6 1/0/3/2", OPEN + "b", "", "--b", "", "--b---", "--b--");
         told("0/1/0/7 1/0/3/3", OPEN + "b", "", "--b", "", " --b", "--bb--", "--b--");
+        told("0/1/0/10 1/0/3/6", OPEN + "b", "", "--b", "", "-xb", "x-b", "--b-x", "--bx-", "xxb", "--b--");
+        told("0/1/0/8 1/0/3/4", OPEN + "b", "", "--b", "", "-", "--", "----", "--b--");
         broken(OPEN + "b");
         broken(OPEN + "b", "");
         broken(OPEN + "b", "--b", "--b--");

@@ -76,6 +76,7 @@ public final class SessionTest {
         Desk.promise("promise 3, words");
         Desk desk = new Desk();
         desk.hearAll(500, "", " ", " NOOP", "NOO", "NOOPS", "NOOPS x", "VRFY a", "MAILFROM:<a@b>", "NOOP.", "HELO-x", "@");
+        desk.hearAll(500, "XOOP", "NXOP", "NOXP", "NOOX", "XELO h", "XAIL FROM:<>");
         desk.hearAll(501, "NOOP ", "NOOP x", "RSET ", "QUIT now", "DATA ", "HELO", "EHLO", "MAIL", "RCPT", "HELO ");
         desk.hearAll(250, "NOOP", "noop", "nOoP", "RSET", "rset", "HELO a", "helo a", "EhLo a");
         desk.hearAll(221, "QUIT", "quit", "qUIt");
@@ -90,6 +91,7 @@ public final class SessionTest {
         desk.hearAll(250, "HELO a", "HELO 9", "HELO a-b", "HELO a--b.c", "HELO 1.2.3", "EHLO Ab.cD.e", "HELO " + longest);
         desk.hearAll(501, "HELO " + longest + "c", "HELO  a", "HELO a ", "HELO a b", "HELO .", "HELO .a", "HELO a.");
         desk.hearAll(501, "HELO a..b", "HELO -a", "HELO a-", "HELO a.-b", "HELO a-.b", "HELO -", "HELO a_b", "HELO a+b");
+        desk.hearAll(250, "HELO aAzZ", "HELO 0.9", "HELO z-Z", "HELO Z.z");
         desk.hearAll(501, "EHLO a@b", "EHLO a/b", "EHLO a:b", "EHLO a[b", "EHLO a`b", "EHLO a{b", "EHLO a.b-");
     }
 
@@ -98,7 +100,7 @@ public final class SessionTest {
         String local = "l".repeat(7);
         String domain = "d".repeat(32);
         String[] right = {
-            "a@b", "a.b@c", "a-b_c+d@e", "-@b", "_@b", "+.-@b", "A.b.C@d.e-f.g", "0@1", local + "@" + domain,
+            "a@b", "a.b@c", "a-b_c+d@e", "-@b", "_@b", "+.-@b", "A.b.C@d.e-f.g", "0@1", "z.Z@z.Z", "9@9", local + "@" + domain,
             "l".repeat(38) + "@d"
         };
         String[] wrong = {

@@ -93,24 +93,59 @@ public final class SpoolTest {
         Desk.due("restart() of a new one", desk.post.restart(), -1);
         desk.send("s@h", "a@h", "one").send("s@h", "b@h", "two");
         desk.openText("s@h", "c@h");
-        desk.typeAll("begun");
+        desk.hear(".", 250);
+        desk.typeAll("NOOP");
         Desk.due("restart() when up", desk.post.restart(), -1);
-        Desk.due("state()", desk.post.state(), 4);
+        Desk.due("state()", desk.post.state(), 2);
         desk.post.breakAfter(0);
         Desk.due("reply(250)", desk.post.reply(250), 0);
-        Desk.due("what was accepted stands", desk.numbers(), "0 1");
+        Desk.due("what was accepted stands", desk.numbers(), "0 1 2");
         Desk.due("text when down", desk.text(1), "two\n");
         Desk.due("pass(7) when down", desk.post.pass(7), 7);
-        Desk.due("restart()", desk.post.restart(), 2);
+        Desk.due("restart()", desk.post.restart(), 3);
         Desk.due("state()", desk.post.state(), 1);
         Desk.due("restart() again", desk.post.restart(), -1);
         desk.hear("", 500);
         desk.hear("RCPT TO:<a@b>", 503);
         desk.send("s@h", "d@h", "no order any more");
         Desk.due("reply(250)", desk.post.reply(250), 1);
-        Desk.due("numbers", desk.numbers(), "1 2");
+        Desk.due("numbers", desk.numbers(), "1 2 3");
         Desk.due("due of the old", desk.post.due(1, 0), 0);
-        Desk.due("due of the new", desk.post.due(2, 0), 7);
+        Desk.due("due of the new", desk.post.due(3, 0), 7);
+        startingWhileATextIsTaken();
+        lettersWithoutASealLeaveNothing();
+    }
+
+    private static void startingWhileATextIsTaken() {
+        Desk desk = new Desk().send("s@h", "a@h", "one").openText("s@h", "c@h");
+        Desk.due("restart() when up", desk.post.restart(), -1);
+        Desk.due("state()", desk.post.state(), 4);
+        desk.hear("a line", 0);
+        desk.post.breakAfter(0);
+        Desk.due("reply(250)", desk.post.reply(250), 0);
+        Desk.due("restart()", desk.post.restart(), 1);
+        Desk.due("state()", desk.post.state(), 1);
+        desk.hear("NOOP", 250);
+        desk.hear("HELO h", 250);
+        desk.hear("RCPT TO:<a@b>", 503);
+    }
+
+    private static void lettersWithoutASealLeaveNothing() {
+        Desk desk = new Desk();
+        for (int round = 0; round < 14; round++) {
+            if (round == 7) {
+                desk.send("s@h", "a@h", "one");
+            }
+            desk.openText("s@h", "b@h");
+            desk.post.breakAfter(1);
+            desk.hear(".", 0);
+            Desk.due("restart()", desk.post.restart(), round < 7 ? 0 : 1);
+        }
+        Desk.due("numbers", desk.numbers(), "7");
+        for (int i = 0; i < 5; i++) {
+            desk.send("s@h", "c@h", "more");
+        }
+        Desk.due("numbers", desk.numbers(), "7 15 16 17 18 19");
     }
 
     private static void fullSpool() {
@@ -126,12 +161,16 @@ public final class SpoolTest {
         desk.hear("MAIL FROM:<a>", 501);
         desk.hear("QUIT", 221);
         desk.hear("MAIL FROM:<a@b>", 503);
+        desk.post.breakAfter(0);
+        Desk.due("reply(250)", desk.post.reply(250), 0);
+        Desk.due("restart() with a full spool", desk.post.restart(), 6);
         Desk.due("reply(250)", desk.post.reply(250), 1);
         desk.send("s@h", "r6@h", "text 6");
         Desk.due("numbers", desk.numbers(), "1 2 3 4 5 6");
         for (int m = 1; m < 7; m++) {
             Desk.due("text", desk.text(m), "text " + m + "\n");
             Desk.due("path", desk.path(m, 0), "r" + m + "@h");
+            Desk.due("sender", desk.path(m, -1), "s@h");
         }
     }
 

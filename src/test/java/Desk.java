@@ -3,10 +3,15 @@ final class Desk {
     private static int wrong = 0;
     private static int looked = 0;
     private static String promise = "";
-    SpooledPost post = new SpooledPost();
+    final CountedPost post = new CountedPost();
 
     static void promise(String name) {
         promise = name;
+    }
+
+    /** The document's sentence that the answers from here on belong to. */
+    static void sentence(String written) {
+        promise = '"' + written + '"';
     }
 
     static void due(String call, long got, long want) {
@@ -78,6 +83,20 @@ final class Desk {
         return this;
     }
 
+    /** Ends the text that is taken. */
+    Desk sealed() {
+        hear(".", 250);
+        return this;
+    }
+
+    /** Letters with one line each, without a sender, to r@h. */
+    Desk fill(int count) {
+        for (int i = 0; i < count; i++) {
+            send("", "r@h", "x");
+        }
+        return this;
+    }
+
     Desk send(String sender, String recipient, String... lines) {
         openText(sender, recipient);
         hearAll(0, lines);
@@ -87,16 +106,20 @@ final class Desk {
 
     String text(int m) {
         StringBuilder all = new StringBuilder();
-        for (int i = 0; post.text(m, i) != 0; i++) {
-            all.append(post.text(m, i));
+        char c = post.text(m, 0);
+        while (c != 0) {
+            all.append(c);
+            c = post.text(m, all.length());
         }
         return all.toString();
     }
 
     String path(int m, int r) {
         StringBuilder all = new StringBuilder();
-        for (int i = 0; post.path(m, r, i) != 0; i++) {
-            all.append(post.path(m, r, i));
+        char c = post.path(m, r, 0);
+        while (c != 0) {
+            all.append(c);
+            c = post.path(m, r, all.length());
         }
         return all.toString();
     }
@@ -104,8 +127,10 @@ final class Desk {
     /** The numbers of the letters, in the order that letter(k) tells. */
     String numbers() {
         StringBuilder all = new StringBuilder();
-        for (int k = 0; post.letter(k) != SpooledPost.NONE; k++) {
-            all.append(k == 0 ? "" : " ").append(post.letter(k));
+        int number = post.letter(0);
+        for (int k = 1; number != SpooledPost.NONE; k++) {
+            all.append(k == 1 ? "" : " ").append(number);
+            number = post.letter(k);
         }
         return all.toString();
     }
@@ -113,11 +138,13 @@ final class Desk {
     /** Each part as depth, multipart or not, first line and number of lines. */
     String parts(int m) {
         StringBuilder all = new StringBuilder();
-        for (int k = 0; post.part(m, k, 0) != SpooledPost.NONE; k++) {
-            all.append(k == 0 ? "" : " ");
-            for (int what = 0; what < 4; what++) {
-                all.append(what == 0 ? "" : "/").append(post.part(m, k, what));
+        int depth = post.part(m, 0, 0);
+        for (int k = 0; depth != SpooledPost.NONE; k++) {
+            all.append(k == 0 ? "" : " ").append(depth);
+            for (int what = 1; what < 4; what++) {
+                all.append("/").append(post.part(m, k, what));
             }
+            depth = post.part(m, k + 1, 0);
         }
         return all.toString();
     }

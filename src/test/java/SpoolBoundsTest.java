@@ -282,6 +282,12 @@ public final class SpoolBoundsTest {
         Desk.due("numbers", desk.numbers(), "0");
         desk.fill(5);
         Desk.due("there is room for 6", desk.numbers(), "0 2 3 4 5 6");
+        desk = new Desk().openText("s@h", "r@h");
+        desk.post.breakAfter(1);
+        desk.hear(".", 0);
+        Desk.due("restart()", desk.post.restart(), 0);
+        desk.fill(6);
+        Desk.due("there is room for 6 where the first one had no seal", desk.numbers(), "1 2 3 4 5 6");
     }
 
     private static void startingAgainTakesOrderAndLineAway() {
